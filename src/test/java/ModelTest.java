@@ -6,7 +6,8 @@ import java.util.Map;
 /** Long runs of calls, the same each time, against a plain model that searches each path anew. */
 public final class ModelTest {
     private static final int RUNS = 600;
-    private static final int CALLS = 512;
+    // A step may ask several questions; the class keeps its promises past the 512th call as well.
+    private static final int STEPS = 400;
     private static long seed = 20261115;
     private static int wrong = 0;
 
@@ -37,14 +38,38 @@ public final class ModelTest {
         int parts = run % 5 == 0 ? 40 : 3 + pick(10);
         int kinds = 1 + pick(4);
         int growth = 60 + pick(120);
-        for (int call = 0; call < CALLS; call++) {
-            String told = call < growth ? grow(real, model, parts, kinds) : use(real, model);
+        int furnished = 0;
+        for (int step = 0; step < STEPS; step++) {
+            String told;
+            if (step < growth) {
+                told = grow(real, model, parts, kinds);
+            } else if (furnished < model.ports.size()) {
+                furnished++;
+                told = furnish(real, model, furnished, run);
+            } else {
+                told = use(real, model, run);
+            }
             if (!told.isEmpty()) {
                 wrong++;
-                System.out.println("run " + run + ", call " + call + ": " + told);
+                System.out.println("run " + run + ", step " + step + ": " + told);
                 return;
             }
         }
+    }
+
+    /** Gives a port what the rules want, in some runs, so that the later rules are seen too. */
+    private static String furnish(PortRules real, Model model, int port, int run) {
+        String told = "";
+        if (run % 2 == 1) {
+            told += compare("unit", real.unit(port, 0, 1, 1), model.unit(port, 0, 1, 1));
+        }
+        if (run % 8 != 0) {
+            told += compare("fallback", real.fallback(port, port), model.fallback(port, port));
+        }
+        if (run % 8 > 2) {
+            told += compare("queue", real.queue(port, port), model.queue(port, port));
+        }
+        return told;
     }
 
     private static String grow(PortRules real, Model model, int parts, int kinds) {
@@ -59,12 +84,15 @@ public final class ModelTest {
             real.port(part, kind, provided), model.port(part, kind, provided));
     }
 
-    private static String use(PortRules real, Model model) {
+    private static String use(PortRules real, Model model, int run) {
         int port = anyPort(model);
         switch (pick(12)) {
             case 0:
-                return units(real, model, port);
+                return run % 8 < 4 ? units(real, model, port) : questions(real, model);
             case 1:
+                if (run % 4 > 1) {
+                    return questions(real, model);
+                }
                 int v = chance(10) ? 9999 + pick(2) : pick(4) * 50 - (chance(5) ? 1 : 0);
                 return compare("version(" + port + ", " + v + ")", real.version(port, v), model.version(port, v));
             case 2:
@@ -89,13 +117,9 @@ public final class ModelTest {
     }
 
     private static String units(PortRules real, Model model, int port) {
-        int u = chance(5) ? pick(2) * 22 - 1 : pick(2);
+        int u = chance(5) ? pick(2) * 22 - 1 : chance(10) ? 1 : 0;
         long up = chance(3) ? pick(2) * 1001 : 1 + pick(3);
         long down = chance(3) ? pick(2) * 1001 : 1 + pick(2);
-        // Whole runs without units let the later rules be seen.
-        if (model.ports.size() % 3 == 0) {
-            return "";
-        }
         return compare("unit(" + port + ", " + u + ", " + up + ", " + down + ")",
             real.unit(port, u, up, down), model.unit(port, u, up, down));
     }

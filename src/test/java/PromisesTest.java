@@ -9,6 +9,7 @@ public final class PromisesTest {
         partRoom();
         portNumbersAndRefusals();
         portRoom();
+        lastPortHasAll();
         unitRefusals();
         unitRefusalChangesNothing();
         connectAcross();
@@ -145,6 +146,35 @@ public final class PromisesTest {
         due("3: port 61 is none", -1, x.version(61, 1));
     }
 
+    private static void lastPortHasAll() {
+        PortRules x = withParts(2);
+        for (int i = 1; i <= 58; i++) {
+            x.port(1, 0, true);
+        }
+        due("3: port 59", 59, x.port(1, 1, true));
+        due("3: port 60", 60, x.port(2, 1, false));
+        due("5: connect to port 60", 1, x.connect(59, 60));
+        due("5: connect from port 60", -2, x.connect(60, 59));
+        due("4: unit of port 60", 1, x.unit(60, 20, 4, 2));
+        due("4: unit of port 59", 1, x.unit(59, 20, 4, 1));
+        due("12: version of port 60", 1, x.version(60, 100));
+        due("12: version of port 59", 1, x.version(59, 199));
+        due("10: fallback of port 60", 0, x.fallback(60, 8));
+        due("8: rule 8 at port 60", 8060, x.check());
+        due("11: queue of port 60", 1, x.queue(60, 100));
+        due("8: all is there", 0, x.check());
+        due("10: fallback of port 60 again", 8, x.fallback(60, 9));
+        PortRules y = withParts(2);
+        for (int i = 1; i <= 59; i++) {
+            y.port(2, 0, false);
+        }
+        y.port(1, 0, true);
+        due("5: connect from the provided port 60", 1, y.connect(60, 59));
+        due("5: and again", 0, y.connect(60, 59));
+        due("13: the last port leads to 59", 58, y.open(57));
+        due("13: so it is not open", 0, y.open(58));
+    }
+
     // Promise 4
 
     private static void unitRefusals() {
@@ -197,6 +227,10 @@ public final class PromisesTest {
         due("5: across on top", 1, x.connect(1, 2));
         due("5: across in a composition", 1, x.connect(3, 4));
         due("5: again", 0, x.connect(3, 4));
+        x.port(4, 0, false);
+        due("5: to a second port", 1, x.connect(3, 7));
+        due("5: the one before is still there", 0, x.connect(3, 4));
+        due("5: and so is the second", 0, x.connect(3, 7));
         due("5: backwards", -2, x.connect(4, 3));
         due("5: of two compositions", -2, x.connect(3, 5));
         due("5: across two levels", -2, x.connect(3, 2));
@@ -425,6 +459,9 @@ public final class PromisesTest {
         due("8: 12 by 2", 0, x.check());
         x.unit(2, 7, 4, 1);
         due("8: rule 3, 3 by 8", 3002, x.check());
+        x.unit(1, 7, 1, 1);
+        x.unit(2, 7, 2, 2);
+        due("8: 2 by 2", 0, x.check());
     }
 
     private static void checkVersions() {
@@ -672,6 +709,7 @@ public final class PromisesTest {
     // Promise 13
 
     private static void openAnswers() {
+        due("13: the first port leads to the only one", 0, pair(0).open(0));
         PortRules x = withParts(3);
         x.port(1, 2, false);
         x.port(1, 0, true);
