@@ -63,6 +63,14 @@ public final class CallsTest extends Answers {
         return x;
     }
 
+    private static PortRules sixtyRequired() {
+        PortRules x = withParts(2);
+        for (int port = 1; port <= 60; port++) {
+            x.port(1 + port % 2, port % 4, false);
+        }
+        return x;
+    }
+
     // Promise 1
 
     private static void newObject() {
@@ -248,6 +256,13 @@ public final class CallsTest extends Answers {
             due("the second time, from " + port, 0, x.connect(port, 61 - port));
         }
         due("thirty flat ones", 30, x.flatten());
+        PortRules one = withSixtyPorts(0);
+        for (int port = 1; port <= 59; port += 2) {
+            due("the first time, to " + port, 1, one.connect(60, port));
+        }
+        for (int port = 1; port <= 59; port += 2) {
+            due("the second time, to " + port, 0, one.connect(60, port));
+        }
         PortRules y = row(0);
         due("out, again", 0, y.connect(1, 2));
         due("across, again", 0, y.connect(2, 3));
@@ -464,6 +479,7 @@ public final class CallsTest extends Answers {
             due("port " + number, -1, x.fallback(number, 5));
         }
         due("port 1", 0, x.fallback(1, 5));
+        due("port 60 of sixty required ones", 0, sixtyRequired().fallback(60, 5));
         PortRules y = withParts(1);
         due("port 1, not made yet", -1, y.fallback(1, 5));
         y.port(1, 0, false);
@@ -564,10 +580,7 @@ public final class CallsTest extends Answers {
 
     private static void openFromZero() {
         says("The i-th (from 0) REQUIRED port of an ATOMIC part to which no FLAT CONNECTOR leads");
-        PortRules x = withParts(2);
-        for (int port = 1; port <= 60; port++) {
-            x.port(1 + port % 2, port % 4, false);
-        }
+        PortRules x = sixtyRequired();
         for (int i = 0; i < 60; i++) {
             due("open(" + i + ") of sixty", i + 1, x.open(i));
         }
